@@ -11,6 +11,7 @@ public final class DocFormat {
     private static final int FAULT_BASE = -10;
 
     private static final int TAPE_ROOM = 600;
+    private static final int FEED_SIZE = 20;
     private static final int NAME_ROOM = 10;
     private static final int NUMBER_ROOM = 4;
     private static final int ENTRY_ROOM = 40;
@@ -44,6 +45,10 @@ public final class DocFormat {
 
     private static final int LEAST = 1;
 
+    private static final String INHERIT_SIGN = "{inherit}";
+    private static final String CODE_SIGN = "{code ";
+    private static final String LINK_SIGN = "{link ";
+
     private final Text tape;
     private final Register register;
     private final Reader reader;
@@ -67,7 +72,7 @@ public final class DocFormat {
     }
 
     public int feed(int a, int b, int c, int d, int e) {
-        if (tape.size + 20 > TAPE_ROOM) {
+        if (tape.size + FEED_SIZE > TAPE_ROOM) {
             return FULL;
         }
         tape.addNumber(a);
@@ -930,10 +935,10 @@ public final class DocFormat {
 
         /** Whether a PARAGRAPH that begins here is {inherit} where it may be: alone, and of a MEMBER. */
         private boolean isInheritAlone(int first, int to) {
-            if (!text.hasWordAt(first, "{inherit}") || into.holder == null || into.holder.isType()) {
+            if (!text.hasWordAt(first, INHERIT_SIGN) || into.holder == null || into.holder.isType()) {
                 return false;
             }
-            if (text.skipBlanks(first + 9, to) < to) {
+            if (text.skipBlanks(first + INHERIT_SIGN.length(), to) < to) {
                 return false;
             }
             int nextTo = text.placeOf('\n', to + 1, text.size);
@@ -1006,9 +1011,9 @@ public final class DocFormat {
             boolean glued = false;
             for (int steps = 0; steps < TAPE_ROOM && next < to; steps++) {
                 Piece piece;
-                if (text.hasWordAt(next, "{code ")) {
+                if (text.hasWordAt(next, CODE_SIGN)) {
                     piece = readCode(next, to);
-                } else if (text.hasWordAt(next, "{link ")) {
+                } else if (text.hasWordAt(next, LINK_SIGN)) {
                     piece = readLink(next, to);
                 } else {
                     piece = readWord(next, to);
@@ -1050,7 +1055,7 @@ public final class DocFormat {
         }
 
         private Piece readCode(int first, int to) {
-            int from = first + 6;
+            int from = first + CODE_SIGN.length();
             int pairs = 1;
             int i = from;
             while (i < to && pairs > 0) {
@@ -1070,7 +1075,7 @@ public final class DocFormat {
         }
 
         private Piece readLink(int first, int to) {
-            int from = first + 6;
+            int from = first + LINK_SIGN.length();
             int close = text.placeOf('}', from, to);
             int nameTo = text.placeOf(' ', from, close);
             int label = text.skipBlanks(nameTo, close);

@@ -77,7 +77,8 @@ public final class LanguageTest {
         long fields = Arrays.stream(c.getDeclaredFields()).filter(f -> !Modifier.isStatic(f.getModifiers())).count();
         Desk.due(c + " has at most twenty fields", fields <= 20, true);
         for (Field f : c.getDeclaredFields()) {
-            boolean constant = Modifier.isFinal(f.getModifiers()) && f.getType() == int.class;
+            boolean constant = Modifier.isFinal(f.getModifiers())
+                    && (f.getType() == int.class || f.getType() == String.class);
             Desk.due(f + " is no static state", !Modifier.isStatic(f.getModifiers()) || constant, true);
         }
         for (Method m : c.getDeclaredMethods()) {
