@@ -85,6 +85,16 @@ public final class EntriesTest {
         Desk.due("BAD member ahead of FULL", d.member("m", 0, true), DocFormat.BAD);
         Desk.due("entries", d.x.count(0), 40);
         Desk.due("above the last", d.x.told(39, 4), 37);
+        d.comment(1, "first");
+        Desk.due("counts for the last", d.x.told(39, 5), 1);
+
+        Desk deep = new Desk();
+        for (int i = 0; i < 39; i++) {
+            deep.type("T" + i, i - 1);
+        }
+        deep.member("m", 0, false);
+        Desk.due("over all parents", deep.leads(38, "m"), 39);
+        Desk.due("over all parents, with type", deep.leads(0, "T38.m"), 39);
     }
 
     private static void told() {

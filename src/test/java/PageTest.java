@@ -13,6 +13,7 @@ public final class PageTest {
         inherit();
         inheritOfNothing();
         takenOver();
+        most();
         full();
         bad();
         stays();
@@ -190,6 +191,27 @@ public final class PageTest {
         due(d, 4, 40, 0, "B.n");
         d.comment(3, "");
         due(d, 3, 40, 0, "B.m");
+    }
+
+    /** As many pieces in a block, and as many blocks on a page, as there can be. */
+    private static void most() {
+        Desk d = desk();
+        d.comment(3, "@return" + " x".repeat(120));
+        for (int how = 0; how < 2; how++) {
+            d.x.page(3, 20, how);
+            Desk.due("bytes of 120 pieces", d.x.about(1), 4 + 1 + 6 + 14 + 1 + 14 * (4 + 15 + 1) + 4 + 2);
+            Desk.due("lines of 120 pieces", d.x.about(0), 2 + 1 + 15);
+        }
+
+        Desk chain = new Desk();
+        for (int i = 0; i < 20; i++) {
+            chain.type("T" + i, i == 0 ? -1 : 2 * i - 2);
+            chain.member("m", 2 * i, false);
+            chain.comment(2 * i + 1, "{inherit}\n" + "-\n".repeat(23));
+        }
+        for (int how = 0; how < 2; how++) {
+            Desk.due("all levels", chain.page(39, 12, how), "T19.m\n" + ("\n" + "-\n".repeat(23)).repeat(20));
+        }
     }
 
     /** Members that inherit from one another, until a page would be too long. */
