@@ -235,11 +235,8 @@ public final class DocFormat {
 
     public int leads(int entry) {
         Entry asked = register.entryAt(entry);
-        if (asked == null) {
-            return ABSENT;
-        }
-        int answer = NONE;
-        if (tape.isReference(0, tape.size)) {
+        int answer = asked == null ? ABSENT : NONE;
+        if (asked != null && tape.isReference(0, tape.size)) {
             answer = numberOf(register.find(tape, 0, tape.size, asked));
         }
         tape.cut(0);

@@ -181,8 +181,9 @@ public final class EntriesTest {
             Desk.due("leads '" + reference + "'", d.leads(0, reference), DocFormat.NONE);
             Desk.due("tape behind '" + reference + "'", d.x.count(2), 0);
         }
-        Desk.due("no such entry", d.leads(2, "A"), -9);
-        Desk.due("what is refused changes nothing", d.x.count(2), 1);
-        Desk.due("no such entry", d.leads(-1, "A"), -9);
+        for (int entry : new int[] {2, -1, 40, Integer.MAX_VALUE, Integer.MIN_VALUE}) {
+            Desk.due("no such entry " + entry, d.leads(entry, "A"), -9);
+            Desk.due("tape behind no such entry " + entry, d.x.count(2), 0);
+        }
     }
 }

@@ -280,7 +280,7 @@ public final class ModelTest {
                 : random.nextBoolean() ? anyName(MEMBERS) : anyName(TYPES) + "." + anyName(MEMBERS);
         int want = from == null ? -9 : number(model.leads(from, reference));
         due("leads " + reference + " from " + of, desk.leads(of, reference), want);
-        due("tape", desk.x.count(2), from == null ? reference.length() : 0);
+        due("tape", desk.x.count(2), 0);
     }
 
     private void lookAtAll() {
