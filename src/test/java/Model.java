@@ -404,7 +404,7 @@ final class Model {
     }
 
     /** Of all ways there are the one with the least sum; of several the one with more chunks early. */
-    private static List<Integer> leastWay(List<String> chunks, int width, int first, int other) {
+    static List<Integer> leastWay(List<String> chunks, int width, int first, int other) {
         if (chunks.size() > 12) {
             return leastByStates(chunks, width, first, other);
         }
